@@ -300,11 +300,10 @@ public final class DockLayout {
         requirePane(pane);
         requireRange(side, LEFT, BELOW);
         requireRange(by, -FARTHEST, FARTHEST);
-        requirePlaced(pane);
         int group = now.trees.groupOf(pane);
         int node = plan.isShown(group) ? nodeAtDivider(group, side) : NONE;
         if (node == NONE) {
-            throw new IllegalStateException("the group is not shown, or there is no such divider");
+            throw new IllegalStateException("the pane is in no group that is shown, or there is no such divider");
         }
         keepRecord();
         int neighbour = shownNeighbour(node, side);
@@ -825,7 +824,6 @@ public final class DockLayout {
             Arrays.fill(root, NONE);
             Arrays.fill(kind, FREE);
             Arrays.fill(parent, NONE);
-            Arrays.fill(active, NONE);
             Arrays.fill(group, NONE);
             Arrays.fill(spot, NONE);
             Arrays.fill(windowWidth, 120);
@@ -956,14 +954,11 @@ public final class DockLayout {
 
         // nodes
 
-        /** A new node, which has no parent; NONE if all are in use. */
+        /** A new node; NONE if all are in use. A node that is free has no parent. */
         int makeNode(int newKind) {
             for (int node = 0; node < NODES; node++) {
                 if (at(kind, node) == FREE) {
                     put(kind, node, newKind);
-                    put(parent, node, NONE);
-                    put(weight, node, EVEN_WEIGHT);
-                    put(active, node, NONE);
                     return node;
                 }
             }
@@ -972,8 +967,6 @@ public final class DockLayout {
 
         void freeNode(int node) {
             put(kind, node, FREE);
-            put(parent, node, NONE);
-            put(active, node, NONE);
         }
 
         int makeRootGroup(int window) {
@@ -1134,11 +1127,10 @@ public final class DockLayout {
             return NONE;
         }
 
-        /** Puts a pane that is not placed into a group, as its last tab, shown and active. */
+        /** Puts a pane that is not placed, and so not hidden, into a group, as its last tab and active. */
         void joinGroup(int pane, int node) {
             put(spot, pane, tabCount(node));
             put(group, pane, node);
-            put(hidden, pane, 0);
             put(active, node, pane);
         }
 

@@ -71,6 +71,12 @@ public final class HitsTest {
             Check.due("25: the last one has all", y.paneAt(column, 0), 5);
         }
         Check.due("25: below them", y.paneAt(7, 1), 1);
+        y.setMinimum(0, 4, 1);
+        y.setMinimum(1, 5, 1);
+        int[] single = {1, 2, 3, 4, 5};
+        for (int column = 5; column < 10; column++) {
+            Check.due("25: a column for each", y.paneAt(column, 0), single[column - 5]);
+        }
         DockLayout z = Check.layout(2, "");
         z.floatAt(0, -30, -40, 20, 20);
         z.dock(1, 0, 4);

@@ -64,9 +64,11 @@ public final class PanesTest {
         Check.due("3: not placed", x.remove(3), 3);
         Check.due("3: active", x.remove(1), 2);
         Check.due("3: focus", Check.focus(x), "ac");
+        Check.due("3: sizes", Check.rectangle(x, 2), "31 0 89 60");
         Check.due("3: taken away", Check.tree(x, 0), "H(1:a*,3:c*)");
         Check.due("3: last of its group", x.remove(2), 1);
         Check.due("3: the split is replaced", Check.tree(x, 0), "a*");
+        Check.due("3: sizes follow", Check.rectangle(x, 0), "0 0 120 60");
         Check.due("3: last of all", x.remove(0), 0);
         Check.due("3: no tree", x.write(0), 0);
         Check.refused("3: twice", x, INDEX, () -> x.remove(0));
@@ -136,6 +138,7 @@ public final class PanesTest {
         Check.due("6: hidden", x.pane(1, 3), 1);
         Check.due("6: not active", x.pane(1, 4), 0);
         x.takeAway(1);
+        Check.due("6: no position when not placed", x.pane(1, 5), -1);
         Check.due("6: not hidden when not placed", x.pane(1, 3), 0);
         Check.due("6: not active when not placed", x.pane(1, 4), 0);
     }

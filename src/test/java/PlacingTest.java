@@ -17,16 +17,20 @@ public final class PlacingTest {
         moveTab();
         even();
         focus();
+        manySplits();
+        twelveTabs();
         Check.finish();
     }
 
     private static void dockSides() {
         String[] due = {"H(1000:b*,1000:a*)", "H(1000:a*,1000:b*)", "V(1000:b*,1000:a*)", "V(1000:a*,1000:b*)", "ab*"};
+        String[] places = {"0 0 60 60", "61 0 59 60", "0 0 120 30", "0 31 120 29", "0 0 120 60"};
         for (int side = 0; side <= 4; side++) {
             DockLayout x = Check.layout(2, "a");
             Check.due("14: window", x.dock(1, 0, side), 0);
             Check.due("14: side " + side, Check.tree(x, 0), due[side]);
             Check.due("14: focus", Check.focus(x), "ba");
+            Check.due("14: sizes follow", Check.rectangle(x, 1), places[side]);
             Check.due("14: undoable", x.undo(), 3);
             Check.due("14: undone", Check.tree(x, 0), "a*");
         }
@@ -92,6 +96,7 @@ public final class PlacingTest {
         DockLayout x = Check.layout(3, "");
         Check.due("15: answer", x.start(1), 0);
         Check.due("15: tree", Check.tree(x, 0), "b*");
+        Check.due("15: sizes follow", Check.rectangle(x, 1), "0 0 120 60");
         x.show(1, false);
         Check.due("15: the pane that is there", x.start(1), 0);
         Check.due("15: shown again", Check.tree(x, 0), "b*");
@@ -143,6 +148,7 @@ public final class PlacingTest {
         Check.due("17: the next tab", Check.tree(x, 0), "H(2:a*,5:H(6:c-,7:e*))");
         x.takeAway(0);
         Check.due("17: the child becomes the root", Check.tree(x, 0), "H(6:c-,7:e*)");
+        Check.due("17: sizes follow", Check.rectangle(x, 4), "0 0 120 60");
         Check.due("17: focus", Check.focus(x), "ce");
         x.takeAway(4);
         Check.due("17: only a hidden one", Check.tree(x, 0), "c-");
@@ -267,5 +273,46 @@ public final class PlacingTest {
         Check.due("23: one is removed", Check.focus(x), "ba");
         x.undo();
         Check.due("23: undone", Check.focus(x), "bca");
+    }
+
+    /** Splits that are gone take no room from later ones. */
+    private static void manySplits() {
+        DockLayout x = Check.layout(3, "a");
+        for (int k = 0; k < 60; k++) {
+            x.dock(1, 0, k % 4);
+            x.dock(2, 1, (k + 2) % 4);
+            x.takeAway(1);
+            x.takeAway(2);
+        }
+        x.dock(1, 0, 1);
+        x.dock(2, 1, 3);
+        Check.due("14: after many splits", Check.tree(x, 0), "H(1000:a*,1000:V(1000:b*,1000:c*))");
+    }
+
+    private static void twelveTabs() {
+        DockLayout x = Check.layout(12, "abcdefghijk*l");
+        Check.due("23: twelve", Check.focus(x), "abcdefghijkl");
+        x.takeAway(10);
+        Check.due("17: the twelfth tab becomes active", Check.tree(x, 0), "abcdefghijl*");
+        x.dock(10, 0, 4);
+        Check.due("20: the last to the front", x.moveTab(10, 0), 11);
+        Check.due("20: tree", Check.tree(x, 0), "k*abcdefghijl");
+        Check.due("20: the first to the end", x.moveTab(10, 11), 0);
+        Check.due("20: tree again", Check.tree(x, 0), "abcdefghijlk*");
+        x.show(11, false);
+        x.activate(11 - 2);
+        Check.due("18: pane 11", x.pane(11, 3), 1);
+        Check.due("18: tree", Check.tree(x, 0), "abcdefghij*l-k");
+        Check.due("25: the last tab", x.paneAt(119, 0), 10);
+        x.show(11, true);
+        Check.due("25: a tab of twelve", x.paneAt(109, 0), 11);
+        Check.due("25: the last of twelve", x.paneAt(110, 0), 10);
+        x.store(0);
+        x.takeAway(11);
+        Check.due("28: twelve", x.restore(0), 12);
+        Check.due("28: pane 11 comes last", x.focus(11), 11);
+        x.remove(11);
+        Check.due("28: without pane 11", x.restore(0), 11);
+        Check.due("28: no pane 11 in the order", x.focus(11), -1);
     }
 }

@@ -10,6 +10,7 @@ public final class SizesTest {
         minimums();
         tooSmall();
         nested();
+        elevenSplits();
         drag();
         dragLimits();
         dragUp();
@@ -60,6 +61,9 @@ public final class SizesTest {
         // then b is too small as well: it gets 9, and c the rest.
         Check.due("7: then another one", columns(row("H(1:a,1:b,8:c)", 102, 30, 9, 5), 3), "0+30 31+9 41+61");
         Check.due("7: a share that is just enough", columns(row("H(1:a,1:b,8:c)", 102, 10, 10, 40), 3), "0+10 11+10 22+80");
+        // 11 by 1, 1, 1: 3 2/3 each; the share of a is its minimum size, so that it is open still.
+        Check.due("7: a share that is just enough, with a remainder", columns(row("H(1:a,1:b,1:c)", 13, 3, 1, 1), 3),
+            "0+4 5+4 10+3");
         // 10 by 1, 1, 1 with minimum sizes 4, 1, 1: a gets 4, 6 are left.
         Check.due("7: a share without its remainder", columns(row("H(1:a,1:b,1:c)", 12, 4, 1, 1), 3), "0+4 5+3 9+3");
     }
@@ -87,6 +91,29 @@ public final class SizesTest {
         x.show(0, false);
         x.show(1, false);
         Check.due("7: nothing is shown", Check.rectangle(x, 1), "-1 -1 -1 -1");
+    }
+
+    private static void elevenSplits() {
+        String tree = "H(1:a,1:V(1:b,1:H(1:c,1:V(1:d,1:H(1:e,1:V(1:f,1:H(1:g,1:V(1:h,1:H(1:i,1:V(1:j,1:H(1:k,1:l)))))))))))";
+        DockLayout x = Check.layout(12, tree);
+        for (int pane = 0; pane < 12; pane++) {
+            x.setMinimum(pane, 1, 1);
+        }
+        x.resize(0, 255, 190);
+        Check.due("7: pane 0", Check.rectangle(x, 0), "0 0 127 190");
+        Check.due("7: pane 1", Check.rectangle(x, 1), "128 0 127 95");
+        Check.due("7: pane 2", Check.rectangle(x, 2), "128 96 63 94");
+        Check.due("7: pane 10", Check.rectangle(x, 10), "248 186 3 4");
+        Check.due("7: pane 11", Check.rectangle(x, 11), "252 186 3 4");
+        Check.due("24: a divider", x.kindAt(251, 187), 3);
+        Check.due("25: pane 10", x.paneAt(250, 189), 10);
+        Check.due("25: pane 11", x.paneAt(252, 189), 11);
+        Check.due("26: pane 11", x.dropAt(254, 188), 111);
+        Check.due("21: the outermost divider", x.drag(11, 0, 1), 1);
+        Check.due("21: where it is", x.rectangle(10, 2) + " " + x.rectangle(11, 2), "4 2");
+        x.dock(11, 0, 2);
+        Check.due("14: with all nodes in use", x.pane(11, 8), 1);
+        Check.due("7: pane 11 then", Check.rectangle(x, 11), "0 0 127 95");
     }
 
     private static void drag() {
@@ -156,6 +183,10 @@ public final class SizesTest {
         x.setMinimum(0, 1, 1);
         Check.due("21: over the hidden ones", x.drag(5, 0, 0), 0);
         Check.due("21: rounded down, at least 1", Check.tree(x, 0), "H(200:a*,60:b-,500:c*,20:d-,200000:e-,500:f*)");
+        DockLayout first = Check.layout(3, "H(8:a-,2:b,2:c)");
+        first.resize(0, 41, 60);
+        first.drag(1, 1, 0);
+        Check.due("21: a hidden first child", Check.tree(first, 0), "H(8000:a-,2000:b*,2000:c*)");
         DockLayout y = Check.layout(3, "H(1000000:a,1:b-,1000000:c)");
         y.drag(0, 1, 1);
         Check.due("21: at least 1", y.pane(1, 7), 1);

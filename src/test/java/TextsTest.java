@@ -82,6 +82,9 @@ public final class TextsTest {
         Check.due("31: not in a floating window any more", x.fault(), -1);
         x.remove(2);
         Check.due("31: does not exist any more", x.fault(), 0);
+        Check.typeText(x, "a");
+        x.remove(0);
+        Check.due("31: pane 0 does not exist any more", x.fault(), 0);
         DockLayout all = Check.layout(12, "");
         Check.typeText(all, "abcdefghijkl");
         Check.due("31: all panes", all.fault(), -1);

@@ -133,9 +133,17 @@ public final class UndoTest {
                 0, 0, 120, 60, 0, 0, 0, -1, -7, 8, 20, 30, 1, 3, 5, 0, 0, 0, 1, 0, 2, 5));
         Check.due("36: it changes nothing", x.checksum(), x.checksum());
         DockLayout y = full();
-        Check.due("36: a full layout", y.checksum(), sumOf(y));
+        Check.due("36: a full layout", y.checksum(), sumOf(y, 6, 2, 1));
         y.activate(3);
-        Check.due("36: the order of focus", y.checksum(), sumOf(y));
+        Check.due("36: the order of focus", y.checksum(), sumOf(y, 6, 2, 1));
+        DockLayout z = Check.layout(12, "H(1:abc,2:d-e*f,3:g)");
+        for (int pane = 7; pane <= 10; pane++) {
+            z.floatAt(pane, pane, -pane, 10 + pane, 20 + pane);
+        }
+        z.dock(11, 10, 3);
+        Check.due("36: all panes and windows", z.checksum(), sumOf(z, 12, 5, 20));
+        z.raise(2);
+        Check.due("36: the order of windows", z.checksum(), sumOf(z, 12, 5, 20));
     }
 
     private static long sumOf(int... numbers) {
@@ -146,20 +154,20 @@ public final class UndoTest {
         return sum;
     }
 
-    /** Of a full layout, where slot 1 alone is in use and five records are kept. */
-    private static long sumOf(DockLayout x) {
+    /** Of a layout without gaps, in which five records are kept; slot 1 is in use if there are 6 panes. */
+    private static long sumOf(DockLayout x, int panes, int windows, int letters) {
         List<Integer> numbers = new ArrayList<>();
         numbers.add(x.panes());
-        for (int k = 0; k < 6 * 13; k++) {
+        for (int k = 0; k < panes * 13; k++) {
             numbers.add(k % 13 < 9 ? x.pane(k / 13, k % 13) : x.rectangle(k / 13, k % 13 - 9));
         }
-        for (int k = 0; k < 16; k++) {
+        for (int k = 0; k < windows * 8; k++) {
             numbers.add(x.window(k / 8, k % 8));
         }
-        for (int k = 0; k < 6; k++) {
+        for (int k = 0; k < panes; k++) {
             numbers.add(x.focus(k));
         }
-        int[] last = {0, 1, 0, 1, 5};
+        int[] last = {0, panes == 6 ? 1 : 0, 0, letters, 5};
         for (int number : last) {
             numbers.add(number);
         }
