@@ -436,7 +436,7 @@ public final class DockLayout {
             throw new IllegalStateException("there is no record");
         }
         recordCount--;
-        now.copyFrom(records[recordIndex(recordCount)]);
+        now.copyFrom(recordAt(recordCount));
         plan.compute(now);
         return recordCount;
     }
@@ -529,15 +529,17 @@ public final class DockLayout {
     /** Comes after the last exception of a call and before its first change. */
     private void keepRecord() {
         if (recordCount == RECORDS) {
-            oldestRecord = recordIndex(1);
+            oldestRecord = Math.floorMod(oldestRecord + 1, RECORDS);
             recordCount--;
         }
-        records[recordIndex(recordCount)].copyFrom(now);
+        recordAt(recordCount).copyFrom(now);
         recordCount++;
     }
 
-    private int recordIndex(int age) {
-        return Math.floorMod(oldestRecord + age, RECORDS);
+    /** The row is used as a ring, so that dropping the oldest record moves nothing. */
+    private State recordAt(int age) {
+        int index = Math.floorMod(oldestRecord + age, RECORDS);
+        return index >= 0 && index < records.length ? records[index] : now;
     }
 
     // ---- dividers
@@ -971,7 +973,7 @@ public final class DockLayout {
 
         int makeRootGroup(int window) {
             int node = makeNode(GROUP);
-            put(root, window, node);
+            setRoot(window, node);
             return node;
         }
 
@@ -1262,7 +1264,12 @@ public final class DockLayout {
             int root = trees.rootOf(window);
             listNodes(trees, root);
             for (int k = listedCount - 1; k >= 0; k--) {
-                measure(state, at(listed, k));
+                int node = at(listed, k);
+                if (trees.kindOf(node) == GROUP) {
+                    measureGroup(state, node);
+                } else {
+                    measureSplit(trees, node);
+                }
             }
             put(left, root, at(trees.windowX, window));
             put(top, root, at(trees.windowY, window));
@@ -1288,14 +1295,6 @@ public final class DockLayout {
             if (node != NONE && listedCount < listed.length) {
                 put(listed, listedCount, node);
                 listedCount++;
-            }
-        }
-
-        private void measure(State state, int node) {
-            if (state.trees.kindOf(node) == GROUP) {
-                measureGroup(state, node);
-            } else {
-                measureSplit(state.trees, node);
             }
         }
 

@@ -145,6 +145,8 @@ public final class SizesTest {
         Check.due("21: as far as b's minimum", x.drag(0, 1, 400), 25);
         Check.due("21: as far as a's minimum", x.drag(0, 1, -400), -50);
         Check.due("21: columns", columns(x, 3), "0+5 6+55 62+30");
+        Check.due("21: away from a's minimum", x.drag(0, 1, 2), 2);
+        Check.due("21: back to a's minimum", x.drag(1, 0, -3), -2);
         x.resize(0, 12, 60);
         Check.due("21: below the minimum", columns(x, 3), "0+5 6+5 12+0");
         Check.due("21: c is too small already", x.drag(1, 1, -5), 0);

@@ -93,6 +93,16 @@ public final class SlotsTest {
     }
 
     private static void restoreUndone() {
+        for (int slot = 0; slot < 3; slot++) {
+            DockLayout y = Check.layout(2, "a");
+            y.store(slot);
+            y.start(0);
+            y.dock(1, 0, 4);
+            y.store(slot);
+            y.undo();
+            Check.due("35: the slot as it was", y.restore(slot), 1);
+            Check.due("28: each slot", Check.tree(y, 0), "a*");
+        }
         DockLayout x = saved();
         x.store(0);
         x.takeAway(5);
