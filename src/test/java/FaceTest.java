@@ -99,7 +99,11 @@ public final class FaceTest {
             int modifiers = field.getModifiers();
             boolean none = field.getName().equals("NONE");
             Check.due(field.getName() + " is private", Modifier.isPrivate(modifiers), !none);
-            Check.due(field.getName() + ", if static, is final", Modifier.isStatic(modifiers) && !Modifier.isFinal(modifiers), false);
+            Check.due(field.getName() + ", if static, is final",
+                Modifier.isStatic(modifiers) && !Modifier.isFinal(modifiers), false);
+            if (none) {
+                Check.due("NONE", Modifier.toString(modifiers) + " " + field.getType(), "public static final int");
+            }
         }
     }
 }

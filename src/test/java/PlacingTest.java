@@ -1,9 +1,5 @@
 /** Promises 14 to 20, 22 and 23: placing panes, tabs, weights and the order of focus. */
 public final class PlacingTest {
-    private static final Class<?> INDEX = IndexOutOfBoundsException.class;
-    private static final Class<?> ARGUMENT = IllegalArgumentException.class;
-    private static final Class<?> STATE = IllegalStateException.class;
-
     public static void main(String[] args) {
         dockSides();
         dockInSplits();
@@ -26,7 +22,7 @@ public final class PlacingTest {
         String[] due = {"H(1000:b*,1000:a*)", "H(1000:a*,1000:b*)", "V(1000:b*,1000:a*)", "V(1000:a*,1000:b*)", "ab*"};
         String[] places = {"0 0 60 60", "61 0 59 60", "0 0 120 30", "0 31 120 29", "0 0 120 60"};
         for (int side = 0; side <= 4; side++) {
-            DockLayout x = Check.layout(2, "a");
+            Run x = Check.layout(2, "a");
             Check.due("14: window", x.dock(1, 0, side), 0);
             Check.due("14: side " + side, Check.tree(x, 0), due[side]);
             Check.due("14: focus", Check.focus(x), "ba");
@@ -42,20 +38,20 @@ public final class PlacingTest {
             "H(7:a*,5:V(1000:bc*,1000:d*))", "H(7:a*,5:bcd*)"
         };
         for (int side = 0; side <= 4; side++) {
-            DockLayout x = Check.layout(4, "H(7:a,5:bc*)");
+            Run x = Check.layout(4, "H(7:a,5:bc*)");
             x.dock(3, 1, side);
             Check.due("14: in a split, side " + side, Check.tree(x, 0), due[side]);
         }
-        DockLayout one = Check.layout(3, "V(1:a,9:b)");
+        Run one = Check.layout(3, "V(1:a,9:b)");
         one.dock(2, 0, 3);
         Check.due("14: weight 1 is halved to 1 and 1", Check.tree(one, 0), "V(1:a*,1:c*,9:b*)");
-        DockLayout hidden = Check.layout(3, "H(1:a-b,1:c)");
+        Run hidden = Check.layout(3, "H(1:a-b,1:c)");
         hidden.dock(2, 0, 4);
         Check.due("14: at a hidden pane", Check.tree(hidden, 0), "a-bc*");
     }
 
     private static void dockMoves() {
-        DockLayout x = Check.layout(4, "H(8:a,4:b)");
+        Run x = Check.layout(4, "H(8:a,4:b)");
         x.dock(1, 0, 1);
         Check.due("14: the split is gone when it is docked", Check.tree(x, 0), "H(1000:a*,1000:b*)");
         x.dock(2, 1, 3);
@@ -70,7 +66,7 @@ public final class PlacingTest {
         x.show(3, false);
         x.dock(3, 0, 2);
         Check.due("14: shown again", Check.tree(x, 0), "H(1000:V(1000:d*,1000:a*),1000:V(1000:c*,1000:b*))");
-        DockLayout y = Check.layout(3, "a");
+        Run y = Check.layout(3, "a");
         y.floatAt(1, 0, 0, 10, 10);
         y.floatAt(2, 0, 0, 10, 10);
         Check.due("14: the floating window", y.dock(0, 1, 4), 1);
@@ -82,29 +78,29 @@ public final class PlacingTest {
     }
 
     private static void dockRefused() {
-        DockLayout x = Check.layout(3, "ab");
-        Check.refused("14: no such pane comes first", x, INDEX, () -> x.dock(3, 3, 5));
-        Check.refused("14: no such target", x, INDEX, () -> x.dock(0, 3, 5));
-        Check.refused("14: below", x, INDEX, () -> x.dock(-1, 0, 0));
-        Check.refused("14: the same", x, ARGUMENT, () -> x.dock(2, 2, 0));
-        Check.refused("14: side 5 before the target", x, ARGUMENT, () -> x.dock(0, 2, 5));
-        Check.refused("14: side -1", x, ARGUMENT, () -> x.dock(0, 1, -1));
-        Check.refused("14: the target is not placed", x, STATE, () -> x.dock(0, 2, 0));
+        Run x = Check.layout(3, "ab");
+        Check.refused("14: no such pane comes first", x, Check.INDEX, () -> x.dock(3, 3, 5));
+        Check.refused("14: no such target", x, Check.INDEX, () -> x.dock(0, 3, 5));
+        Check.refused("14: below", x, Check.INDEX, () -> x.dock(-1, 0, 0));
+        Check.refused("14: the same", x, Check.ARGUMENT, () -> x.dock(2, 2, 0));
+        Check.refused("14: side 5 before the target", x, Check.ARGUMENT, () -> x.dock(0, 2, 5));
+        Check.refused("14: side -1", x, Check.ARGUMENT, () -> x.dock(0, 1, -1));
+        Check.refused("14: the target is not placed", x, Check.STATE, () -> x.dock(0, 2, 0));
     }
 
     private static void start() {
-        DockLayout x = Check.layout(3, "");
+        Run x = Check.layout(3, "");
         Check.due("15: answer", x.start(1), 0);
         Check.due("15: tree", Check.tree(x, 0), "b*");
         Check.due("15: sizes follow", Check.rectangle(x, 1), "0 0 120 60");
         x.show(1, false);
         Check.due("15: the pane that is there", x.start(1), 0);
         Check.due("15: shown again", Check.tree(x, 0), "b*");
-        Check.refused("15: another one is there", x, STATE, () -> x.start(0));
-        Check.refused("15: no such pane", x, INDEX, () -> x.start(3));
-        Check.refused("15: below", x, INDEX, () -> x.start(-1));
+        Check.refused("15: another one is there", x, Check.STATE, () -> x.start(0));
+        Check.refused("15: no such pane", x, Check.INDEX, () -> x.start(3));
+        Check.refused("15: below", x, Check.INDEX, () -> x.start(-1));
         x.dock(0, 1, 4);
-        Check.refused("15: not alone", x, STATE, () -> x.start(1));
+        Check.refused("15: not alone", x, Check.STATE, () -> x.start(1));
         x.takeAway(0);
         x.floatAt(1, 0, 0, 10, 10);
         x.floatAt(2, 0, 0, 10, 10);
@@ -116,7 +112,7 @@ public final class PlacingTest {
     }
 
     private static void floatAt() {
-        DockLayout x = Check.layout(6, "H(3:a,4:bc-)");
+        Run x = Check.layout(6, "H(3:a,4:bc-)");
         Check.due("16: number", x.floatAt(2, -400, 400, 10, 400), 1);
         Check.due("16: rectangle, and shown", Check.rectangle(x, 2), "-400 400 10 400");
         Check.due("16: what stays", Check.tree(x, 0), "H(3:a*,4:b*)");
@@ -129,19 +125,19 @@ public final class PlacingTest {
         int[][] wrong = {{401, 0, 10, 10}, {-401, 0, 10, 10}, {0, 401, 10, 10}, {0, -401, 10, 10},
             {0, 0, 9, 10}, {0, 0, 401, 10}, {0, 0, 10, 9}, {0, 0, 10, 401}};
         for (int[] w : wrong) {
-            Check.refused("16: out of range", x, ARGUMENT, () -> x.floatAt(0, w[0], w[1], w[2], w[3]));
+            Check.refused("16: out of range", x, Check.ARGUMENT, () -> x.floatAt(0, w[0], w[1], w[2], w[3]));
         }
         x.floatAt(0, 0, 0, 10, 10);
         x.floatAt(1, 0, 0, 10, 10);
         Check.due("16: four", Check.floating(x), "1234");
-        Check.refused("16: five", x, STATE, () -> x.floatAt(4, 0, 0, 10, 10));
-        Check.refused("16: even if one would disappear", x, STATE, () -> x.floatAt(1, 0, 0, 10, 10));
-        Check.refused("16: range before the number", x, ARGUMENT, () -> x.floatAt(1, 0, 0, 9, 10));
-        Check.refused("16: no such pane comes first", x, INDEX, () -> x.floatAt(6, 0, 0, 9, 10));
+        Check.refused("16: five", x, Check.STATE, () -> x.floatAt(4, 0, 0, 10, 10));
+        Check.refused("16: even if one would disappear", x, Check.STATE, () -> x.floatAt(1, 0, 0, 10, 10));
+        Check.refused("16: range before the number", x, Check.ARGUMENT, () -> x.floatAt(1, 0, 0, 9, 10));
+        Check.refused("16: no such pane comes first", x, Check.INDEX, () -> x.floatAt(6, 0, 0, 9, 10));
     }
 
     private static void takeAway() {
-        DockLayout x = Check.layout(7, "H(2:a,5:V(1:b,1:H(6:c-,7:de)))");
+        Run x = Check.layout(7, "H(2:a,5:V(1:b,1:H(6:c-,7:de)))");
         Check.due("17: how many are left", x.takeAway(1), 4);
         Check.due("17: the child gets the weight", Check.tree(x, 0), "H(2:a*,5:H(6:c-,7:d*e))");
         x.takeAway(3);
@@ -154,22 +150,22 @@ public final class PlacingTest {
         Check.due("17: only a hidden one", Check.tree(x, 0), "c-");
         Check.due("17: the last", x.takeAway(2), 0);
         Check.due("17: no tree", x.write(0), 0);
-        Check.refused("17: not placed", x, STATE, () -> x.takeAway(2));
-        Check.refused("17: no such pane comes first", x, INDEX, () -> x.takeAway(7));
+        Check.refused("17: not placed", x, Check.STATE, () -> x.takeAway(2));
+        Check.refused("17: no such pane comes first", x, Check.INDEX, () -> x.takeAway(7));
         x.undo();
         Check.due("17: undone", Check.tree(x, 0), "c-");
         nextActive();
     }
 
     private static void nextActive() {
-        DockLayout x = Check.layout(5, "ab-c*d-e");
+        Run x = Check.layout(5, "ab-c*d-e");
         x.takeAway(2);
         Check.due("17: the first shown behind it", Check.tree(x, 0), "ab-d-e*");
         x.takeAway(4);
         Check.due("17: the last shown before it", Check.tree(x, 0), "a*b-d-");
         x.takeAway(0);
         Check.due("17: none", Check.tree(x, 0), "b-d-");
-        DockLayout y = Check.layout(4, "abcd*");
+        Run y = Check.layout(4, "abcd*");
         y.takeAway(3);
         Check.due("17: the last one, not the first", Check.tree(y, 0), "abc*");
         y.takeAway(0);
@@ -177,7 +173,7 @@ public final class PlacingTest {
     }
 
     private static void show() {
-        DockLayout x = Check.layout(5, "H(1:abc*,1:d)");
+        Run x = Check.layout(5, "H(1:abc*,1:d)");
         Check.due("18: shown before", x.show(2, false), true);
         Check.due("18: the next active", Check.tree(x, 0), "H(1:ab*c-,1:d*)");
         Check.due("18: hidden before", x.show(2, false), false);
@@ -196,12 +192,12 @@ public final class PlacingTest {
         Check.due("18: sizes follow", Check.rectangle(x, 1), "0 0 120 60");
         x.undo();
         Check.due("18: undone", x.pane(3, 3), 0);
-        Check.refused("18: not placed", x, STATE, () -> x.show(4, true) ? 1 : 0);
-        Check.refused("18: no such pane comes first", x, INDEX, () -> x.show(5, false) ? 1 : 0);
+        Check.refused("18: not placed", x, Check.STATE, () -> x.show(4, true) ? 1 : 0);
+        Check.refused("18: no such pane comes first", x, Check.INDEX, () -> x.show(5, false) ? 1 : 0);
     }
 
     private static void activate() {
-        DockLayout x = Check.layout(6, "H(1:ab,1:c-d)");
+        Run x = Check.layout(6, "H(1:ab,1:c-d)");
         x.floatAt(4, 0, 0, 10, 10);
         x.floatAt(5, 0, 0, 10, 10);
         Check.due("19: previous", x.activate(1), 0);
@@ -214,14 +210,14 @@ public final class PlacingTest {
         Check.due("19: focus again", Check.focus(x), "ebfacd");
         Check.due("19: undoable", x.undo(), 4);
         Check.due("19: undone", Check.floating(x) + Check.focus(x), "12bfeacd");
-        Check.refused("19: hidden", x, STATE, () -> x.activate(2));
+        Check.refused("19: hidden", x, Check.STATE, () -> x.activate(2));
         x.takeAway(3);
-        Check.refused("19: not placed", x, STATE, () -> x.activate(3));
-        Check.refused("19: no such pane", x, INDEX, () -> x.activate(6));
+        Check.refused("19: not placed", x, Check.STATE, () -> x.activate(3));
+        Check.refused("19: no such pane", x, Check.INDEX, () -> x.activate(6));
     }
 
     private static void moveTab() {
-        DockLayout x = Check.layout(6, "H(1:ab*c-d,1:e)");
+        Run x = Check.layout(6, "H(1:ab*c-d,1:e)");
         Check.due("20: to the end", x.moveTab(1, 3), 1);
         Check.due("20: tree", Check.tree(x, 0), "H(1:ac-db*,1:e*)");
         Check.due("20: to the front", x.moveTab(3, 0), 2);
@@ -233,16 +229,16 @@ public final class PlacingTest {
         Check.due("20: focus stays", Check.focus(x), "abcde");
         x.undo();
         Check.due("20: undone", Check.tree(x, 0), "H(1:dac-b*,1:e*)");
-        Check.refused("20: no such pane comes first", x, INDEX, () -> x.moveTab(6, -1));
-        Check.refused("20: not placed comes next", x, STATE, () -> x.moveTab(5, -1));
-        Check.refused("20: negative", x, ARGUMENT, () -> x.moveTab(0, -1));
-        Check.refused("20: too far", x, ARGUMENT, () -> x.moveTab(0, 4));
-        Check.refused("20: too far in a small group", x, ARGUMENT, () -> x.moveTab(4, 1));
+        Check.refused("20: no such pane comes first", x, Check.INDEX, () -> x.moveTab(6, -1));
+        Check.refused("20: not placed comes next", x, Check.STATE, () -> x.moveTab(5, -1));
+        Check.refused("20: negative", x, Check.ARGUMENT, () -> x.moveTab(0, -1));
+        Check.refused("20: too far", x, Check.ARGUMENT, () -> x.moveTab(0, 4));
+        Check.refused("20: too far in a small group", x, Check.ARGUMENT, () -> x.moveTab(4, 1));
         Check.due("20: the only place", x.moveTab(4, 0), 0);
     }
 
     private static void even() {
-        DockLayout x = Check.layout(6, "H(1:a,2:b-,3:V(4:c,5:d))");
+        Run x = Check.layout(6, "H(1:a,2:b-,3:V(4:c,5:d))");
         Check.due("22: all children", x.even(0), 3);
         Check.due("22: hidden ones, too, and no others", Check.tree(x, 0), "H(1000:a*,1000:b-,1000:V(4:c*,5:d*))");
         Check.due("22: sizes follow", Check.rectangle(x, 0), "0 0 60 60");
@@ -251,14 +247,14 @@ public final class PlacingTest {
         x.undo();
         x.undo();
         Check.due("22: undone", Check.tree(x, 0), "H(1:a*,2:b-,3:V(4:c*,5:d*))");
-        Check.refused("22: no such pane", x, INDEX, () -> x.even(6));
-        Check.refused("22: not placed", x, STATE, () -> x.even(4));
+        Check.refused("22: no such pane", x, Check.INDEX, () -> x.even(6));
+        Check.refused("22: not placed", x, Check.STATE, () -> x.even(4));
         x.floatAt(4, 0, 0, 10, 10);
-        Check.refused("22: the root", x, STATE, () -> x.even(4));
+        Check.refused("22: the root", x, Check.STATE, () -> x.even(4));
     }
 
     private static void focus() {
-        DockLayout x = Check.layout(5, "abc");
+        Run x = Check.layout(5, "abc");
         Check.due("23: order", Check.focus(x), "abc");
         Check.due("23: negative", x.focus(-1), -1);
         Check.due("23: behind the last", x.focus(3), -1);
@@ -277,7 +273,7 @@ public final class PlacingTest {
 
     /** Splits that are gone take no room from later ones. */
     private static void manySplits() {
-        DockLayout x = Check.layout(3, "a");
+        Run x = Check.layout(3, "a");
         for (int k = 0; k < 60; k++) {
             x.dock(1, 0, k % 4);
             x.dock(2, 1, (k + 2) % 4);
@@ -290,7 +286,7 @@ public final class PlacingTest {
     }
 
     private static void twelveTabs() {
-        DockLayout x = Check.layout(12, "abcdefghijk*l");
+        Run x = Check.layout(12, "abcdefghijk*l");
         Check.due("23: twelve", Check.focus(x), "abcdefghijkl");
         x.takeAway(10);
         Check.due("17: the twelfth tab becomes active", Check.tree(x, 0), "abcdefghijl*");

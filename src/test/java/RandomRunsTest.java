@@ -1,5 +1,3 @@
-import java.util.Arrays;
-
 /**
  * Runs of calls that a fixed sequence of numbers picks, on the class and on the reference of
  * src/test/support, which is built in another way; every answer and every exception is compared.
@@ -18,7 +16,10 @@ public final class RandomRunsTest {
         {3, 1, 2, 1, 1, 1, 1, 2, 1, 1, 1, 1, 8, 1, 2, 1, 3, 3, 3, 14, 1, 1, 2, 2, 3, 2, 2, 0, 1, 4, 15, 4, 1, 3, 0},
         {4, 0, 2, 0, 0, 0, 0, 2, 0, 0, 0, 0, 40, 0, 1, 0, 2, 3, 0, 40, 0, 0, 1, 1, 1, 0, 0, 0, 0, 0, 0, 9, 0, 1, 0},
     };
-    /** The panes and the windows that exist, as far as the class says. */
+    private static final int MOST_CALLS = 512;
+    /** A text is looked at by up to 121 calls more. */
+    private static final int ROOM_TO_LOOK = 130;
+    /** The panes and the windows that exist. */
     private static int panesThere;
     private static int windowsThere;
     private static long seed;
@@ -33,7 +34,7 @@ public final class RandomRunsTest {
     }
 
     public static void main(String[] args) {
-        int runs = args.length > 0 ? Integer.parseInt(args[0]) : 300;
+        int runs = args.length > 0 ? Integer.parseInt(args[0]) : 1200;
         for (int run = 1; run <= runs; run++) {
             seed = run * 7919L;
             random(2);
@@ -45,11 +46,13 @@ public final class RandomRunsTest {
         System.out.println(runs + " runs, all answers are the same");
     }
 
+    /** Half of the runs ask for the checksum behind each call, the others make more calls instead. */
     private static boolean sameRun(int run) {
-        DockLayout layout = new DockLayout();
+        Run layout = new Run();
         Reference reference = new Reference();
-        StringBuilder told = new StringBuilder();
+        StringBuilder told = new StringBuilder("run " + run + ":");
         int[] often = OFTEN[run % OFTEN.length];
+        boolean sums = run / OFTEN.length % 2 == 0;
         int greatest = between(2, 14);
         for (int k = random(3) == 0 ? 0 : between(2, 12); k > 0; k--) {
             int[] a = {between(1, greatest), between(1, greatest), 0, 0, 0};
@@ -57,38 +60,63 @@ public final class RandomRunsTest {
                 return false;
             }
         }
-        for (int call = 0; call < 485; call++) {
-            int op = pick(often);
-            look(layout);
-            if (op == 30 && random(2) == 0) {
-                sameText(layout, reference, randomText());
+        while (layout.callCount() < MOST_CALLS - ROOM_TO_LOOK) {
+            if (!sameStep(layout, reference, often, sums, told)) {
+                return false;
             }
-            if (!sameCall(layout, reference, op, arguments(op), told)
-                    || !sameCall(layout, reference, 34, new int[5], told) || !sameLists(layout, reference)) {
-                System.out.println("run " + run + ":" + told);
+        }
+        return sameCall(layout, reference, 34, new int[5], told) && sameLists(layout, reference, told);
+    }
+
+    private static boolean sameStep(Run layout, Reference reference, int[] often, boolean sums, StringBuilder told) {
+        int op = pick(often);
+        look(reference);
+        if (op == 30 && random(2) == 0) {
+            String text = randomText();
+            text = text.substring(0, Math.min(120, text.length()));
+            if (layout.callCount() + text.length() < MOST_CALLS - ROOM_TO_LOOK) {
+                told.append("\ntext ").append(text);
+                typeText(layout, reference, text);
+            }
+        }
+        return sameCall(layout, reference, op, arguments(op), told)
+            && (!sums || sameCall(layout, reference, 34, new int[5], told));
+    }
+
+    /** What lies in no checksum: the texts, the trees, the tabs, and the orders beyond their ends. */
+    private static boolean sameLists(Run layout, Reference reference, StringBuilder told) {
+        if (!sameText(told, "the text", Check.text(layout), textOf(reference))) {
+            return false;
+        }
+        Run twin = layout.twin();
+        for (int k = 0; k < 40; k++) {
+            if (!sameCall(twin, reference, 6, new int[] {k % 12, k / 12 - 1}, told)
+                    || !sameCall(twin, reference, k % 2 == 0 ? 11 : 21, new int[] {k / 2 - 2}, told)) {
+                return false;
+            }
+        }
+        for (int window = 0; window < 5; window++) {
+            if (answer(null, reference, "", 31, new int[] {window}).matches("[0-9]+")
+                    && !sameText(told, "tree " + window, Check.tree(layout, window), textOf(reference))) {
                 return false;
             }
         }
         return true;
     }
 
-    private static boolean sameLists(DockLayout layout, Reference reference) {
-        for (int k = -1; k < 13; k++) {
-            if (layout.focus(k) != reference.focus(k) || layout.floating(k) != reference.floating(k)) {
-                return false;
-            }
+    private static String textOf(Reference reference) {
+        StringBuilder text = new StringBuilder();
+        for (int code = reference.character(0); code != Reference.NONE; code = reference.character(text.length())) {
+            text.append((char) code);
         }
-        for (int k = -1; k <= 120; k++) {
-            if (layout.character(k) != reference.character(k)) {
-                return false;
-            }
+        return text.toString();
+    }
+
+    private static boolean sameText(StringBuilder told, String what, String got, String want) {
+        if (!got.equals(want)) {
+            System.out.println(told.append('\n').append(what + " is " + got + ", due is " + want));
         }
-        for (int k = 0; k < 144; k++) {
-            if ((reference.panes() >> k / 12 & 1) == 1 && layout.tab(k / 12, k % 12) != reference.tab(k / 12, k % 12)) {
-                return false;
-            }
-        }
-        return true;
+        return got.equals(want);
     }
 
     private static int pick(int[] often) {
@@ -106,20 +134,23 @@ public final class RandomRunsTest {
         return 0;
     }
 
-    private static boolean sameCall(DockLayout x, Reference r, int op, int[] a, StringBuilder told) {
-        String got = answer(x, null, op, a);
-        String want = answer(null, r, op, a);
-        told.append('\n').append(NAMES[op]).append(' ').append(Arrays.toString(a)).append(" -> ").append(got);
+    private static boolean sameCall(Run x, Reference r, int op, int[] a, StringBuilder told) {
+        String line = NAMES[op];
+        for (int argument : a) {
+            line += " " + argument;
+        }
+        String got = answer(x, null, line, op, a);
+        String want = answer(null, r, line, op, a);
+        told.append('\n').append(line).append(" -> ").append(got);
         if (!got.equals(want)) {
-            told.append(", due is ").append(want);
-            System.out.println(told);
+            System.out.println(told.append(", due is ").append(want));
         }
         return got.equals(want);
     }
 
-    private static String answer(DockLayout x, Reference r, int op, int[] a) {
+    private static String answer(Run x, Reference r, String line, int op, int[] a) {
         try {
-            return "" + (r == null ? ofClass(x, op, a) : ofReference(r, op, a));
+            return "" + (r == null ? x.call(line) : Run.callByName(r, NAMES[op], a));
         } catch (RuntimeException e) {
             return e.getClass().getSimpleName();
         }
@@ -141,11 +172,11 @@ public final class RandomRunsTest {
         return number;
     }
 
-    private static void look(DockLayout layout) {
+    private static void look(Reference layout) {
         panesThere = layout.panes();
         windowsThere = 1;
         for (int k = 0; k < 4; k++) {
-            windowsThere |= layout.floating(k) == DockLayout.NONE ? 0 : 1 << layout.floating(k);
+            windowsThere |= layout.floating(k) == Reference.NONE ? 0 : 1 << layout.floating(k);
         }
     }
 
@@ -159,6 +190,14 @@ public final class RandomRunsTest {
     }
 
     private static int[] arguments(int op) {
+        int[] a = likelyArguments(op);
+        if (random(60) == 0) {
+            a[random(5)] = random(2) == 0 ? Integer.MIN_VALUE : Integer.MAX_VALUE;
+        }
+        return a;
+    }
+
+    private static int[] likelyArguments(int op) {
         int[] a = new int[5];
         switch (op) {
             case 0: return new int[] {between(0, 14), between(1, 9), 0, 0, 0};
@@ -185,10 +224,10 @@ public final class RandomRunsTest {
         }
     }
 
-    private static void sameText(DockLayout layout, Reference reference, String text) {
+    private static void typeText(Run layout, Reference reference, String text) {
         layout.clearText();
         reference.clearText();
-        for (int k = 0; k < text.length() && k < 120; k++) {
+        for (int k = 0; k < text.length(); k++) {
             layout.type(text.charAt(k));
             reference.type(text.charAt(k));
         }
@@ -237,85 +276,5 @@ public final class RandomRunsTest {
             }
         }
         return text.toString();
-    }
-
-    private static long ofClass(DockLayout x, int op, int[] a) {
-        switch (op) {
-            case 0: return x.create(a[0], a[1]);
-            case 1: return x.remove(a[0]);
-            case 2: return x.setMinimum(a[0], a[1], a[2]);
-            case 3: return x.panes();
-            case 4: return x.pane(a[0], a[1]);
-            case 5: return x.rectangle(a[0], a[1]);
-            case 6: return x.tab(a[0], a[1]);
-            case 7: return x.resize(a[0], a[1], a[2]);
-            case 8: return x.move(a[0], a[1], a[2]);
-            case 9: return x.raise(a[0]);
-            case 10: return x.window(a[0], a[1]);
-            case 11: return x.floating(a[0]);
-            case 12: return x.dock(a[0], a[1], a[2]);
-            case 13: return x.start(a[0]);
-            case 14: return x.floatAt(a[0], a[1], a[2], a[3], a[4]);
-            case 15: return x.takeAway(a[0]);
-            case 16: return x.show(a[0], a[1] == 1) ? 1 : 0;
-            case 17: return x.activate(a[0]);
-            case 18: return x.moveTab(a[0], a[1]);
-            case 19: return x.drag(a[0], a[1], a[2]);
-            case 20: return x.even(a[0]);
-            case 21: return x.focus(a[0]);
-            case 22: return x.kindAt(a[0], a[1]);
-            case 23: return x.paneAt(a[0], a[1]);
-            case 24: return x.dropAt(a[0], a[1]);
-            case 25: return x.store(a[0]);
-            case 26: return x.restore(a[0]);
-            case 27: return x.type(a[0]);
-            case 28: return x.clearText();
-            case 29: return x.fault();
-            case 30: return x.read();
-            case 31: return x.write(a[0]);
-            case 32: return x.character(a[0]);
-            case 33: return x.undo();
-            default: return x.checksum();
-        }
-    }
-
-    private static long ofReference(Reference x, int op, int[] a) {
-        switch (op) {
-            case 0: return x.create(a[0], a[1]);
-            case 1: return x.remove(a[0]);
-            case 2: return x.setMinimum(a[0], a[1], a[2]);
-            case 3: return x.panes();
-            case 4: return x.pane(a[0], a[1]);
-            case 5: return x.rectangle(a[0], a[1]);
-            case 6: return x.tab(a[0], a[1]);
-            case 7: return x.resize(a[0], a[1], a[2]);
-            case 8: return x.move(a[0], a[1], a[2]);
-            case 9: return x.raise(a[0]);
-            case 10: return x.window(a[0], a[1]);
-            case 11: return x.floating(a[0]);
-            case 12: return x.dock(a[0], a[1], a[2]);
-            case 13: return x.start(a[0]);
-            case 14: return x.floatAt(a[0], a[1], a[2], a[3], a[4]);
-            case 15: return x.takeAway(a[0]);
-            case 16: return x.show(a[0], a[1] == 1) ? 1 : 0;
-            case 17: return x.activate(a[0]);
-            case 18: return x.moveTab(a[0], a[1]);
-            case 19: return x.drag(a[0], a[1], a[2]);
-            case 20: return x.even(a[0]);
-            case 21: return x.focus(a[0]);
-            case 22: return x.kindAt(a[0], a[1]);
-            case 23: return x.paneAt(a[0], a[1]);
-            case 24: return x.dropAt(a[0], a[1]);
-            case 25: return x.store(a[0]);
-            case 26: return x.restore(a[0]);
-            case 27: return x.type(a[0]);
-            case 28: return x.clearText();
-            case 29: return x.fault();
-            case 30: return x.read();
-            case 31: return x.write(a[0]);
-            case 32: return x.character(a[0]);
-            case 33: return x.undo();
-            default: return x.checksum();
-        }
     }
 }

@@ -1,9 +1,5 @@
 /** Promises 9 to 13: windows. */
 public final class WindowsTest {
-    private static final Class<?> INDEX = IndexOutOfBoundsException.class;
-    private static final Class<?> ARGUMENT = IllegalArgumentException.class;
-    private static final Class<?> STATE = IllegalStateException.class;
-
     public static void main(String[] args) {
         resize();
         move();
@@ -13,8 +9,8 @@ public final class WindowsTest {
         Check.finish();
     }
 
-    private static DockLayout threeWindows() {
-        DockLayout x = Check.layout(6, "a-");
+    private static Run threeWindows() {
+        Run x = Check.layout(6, "a-");
         x.floatAt(1, 1, 2, 20, 21);
         x.floatAt(2, 3, 4, 22, 23);
         x.floatAt(3, 5, 6, 24, 25);
@@ -22,7 +18,7 @@ public final class WindowsTest {
     }
 
     private static void resize() {
-        DockLayout x = threeWindows();
+        Run x = threeWindows();
         x.dock(4, 2, 1);
         Check.due("9: main", x.resize(0, 10, 400), 1);
         Check.due("9: columns", x.window(0, 2), 10);
@@ -33,19 +29,19 @@ public final class WindowsTest {
         Check.due("9: undone", Check.rectangle(x, 2), "3 4 11 23");
         Check.due("9: undone for main, too", x.undo(), 3);
         Check.due("9: main as before", x.window(0, 2), 120);
-        Check.refused("9: no such window comes first", x, INDEX, () -> x.resize(4, 9, 9));
-        Check.refused("9: window 5", x, INDEX, () -> x.resize(5, 10, 10));
-        Check.refused("9: window -1", x, INDEX, () -> x.resize(-1, 10, 10));
+        Check.refused("9: no such window comes first", x, Check.INDEX, () -> x.resize(4, 9, 9));
+        Check.refused("9: window 5", x, Check.INDEX, () -> x.resize(5, 10, 10));
+        Check.refused("9: window -1", x, Check.INDEX, () -> x.resize(-1, 10, 10));
         int[][] wrong = {{9, 10}, {401, 10}, {10, 9}, {10, 401}};
         for (int[] w : wrong) {
-            Check.refused("9: " + w[0] + " " + w[1], x, ARGUMENT, () -> x.resize(0, w[0], w[1]));
+            Check.refused("9: " + w[0] + " " + w[1], x, Check.ARGUMENT, () -> x.resize(0, w[0], w[1]));
         }
         x.takeAway(0);
         Check.due("9: no tree", x.resize(0, 50, 50), 0);
     }
 
     private static void move() {
-        DockLayout x = threeWindows();
+        Run x = threeWindows();
         Check.due("10: previous", x.move(2, -400, 400), 3);
         Check.due("10: previous again", x.move(2, 400, -400), -400);
         Check.due("10: column", x.window(2, 0), 400);
@@ -54,17 +50,17 @@ public final class WindowsTest {
         Check.due("10: order stays", Check.floating(x), "123");
         x.undo();
         Check.due("10: undone", Check.rectangle(x, 2), "-400 400 22 23");
-        Check.refused("10: no such window comes first", x, INDEX, () -> x.move(4, 999, 0));
-        Check.refused("10: range before main", x, ARGUMENT, () -> x.move(0, 401, 0));
-        Check.refused("10: main", x, STATE, () -> x.move(0, 0, 0));
+        Check.refused("10: no such window comes first", x, Check.INDEX, () -> x.move(4, 999, 0));
+        Check.refused("10: range before main", x, Check.ARGUMENT, () -> x.move(0, 401, 0));
+        Check.refused("10: main", x, Check.STATE, () -> x.move(0, 0, 0));
         int[][] wrong = {{401, 0}, {-401, 0}, {0, 401}, {0, -401}};
         for (int[] w : wrong) {
-            Check.refused("10: " + w[0] + " " + w[1], x, ARGUMENT, () -> x.move(1, w[0], w[1]));
+            Check.refused("10: " + w[0] + " " + w[1], x, Check.ARGUMENT, () -> x.move(1, w[0], w[1]));
         }
     }
 
     private static void raise() {
-        DockLayout x = threeWindows();
+        Run x = threeWindows();
         Check.due("11: first", x.raise(1), 0);
         Check.due("11: order", Check.floating(x), "231");
         Check.due("11: middle", x.raise(3), 1);
@@ -75,13 +71,13 @@ public final class WindowsTest {
         x.undo();
         Check.due("11: undone", Check.floating(x), "231");
         Check.due("11: focus stays", Check.focus(x), "dcba");
-        Check.refused("11: no such window", x, INDEX, () -> x.raise(4));
-        Check.refused("11: window -1", x, INDEX, () -> x.raise(-1));
-        Check.refused("11: main", x, STATE, () -> x.raise(0));
+        Check.refused("11: no such window", x, Check.INDEX, () -> x.raise(4));
+        Check.refused("11: window -1", x, Check.INDEX, () -> x.raise(-1));
+        Check.refused("11: main", x, Check.STATE, () -> x.raise(0));
     }
 
     private static void window() {
-        DockLayout x = threeWindows();
+        Run x = threeWindows();
         x.raise(1);
         int[][] due = {
             {0, 0, 120, 60, 1, 0, 0, -1}, {1, 2, 20, 21, 1, 5, 5, 2},
@@ -92,16 +88,16 @@ public final class WindowsTest {
                 Check.due("12: window " + window + " " + what, x.window(window, what), due[window][what]);
             }
         }
-        Check.refused("12: no such window comes first", x, INDEX, () -> x.window(4, 8));
-        Check.refused("12: window -1", x, INDEX, () -> x.window(-1, 0));
-        Check.refused("12: window 5", x, INDEX, () -> x.window(5, 0));
-        Check.refused("12: what 8", x, ARGUMENT, () -> x.window(0, 8));
-        Check.refused("12: what -1", x, ARGUMENT, () -> x.window(0, -1));
+        Check.refused("12: no such window comes first", x, Check.INDEX, () -> x.window(4, 8));
+        Check.refused("12: window -1", x, Check.INDEX, () -> x.window(-1, 0));
+        Check.refused("12: window 5", x, Check.INDEX, () -> x.window(5, 0));
+        Check.refused("12: what 8", x, Check.ARGUMENT, () -> x.window(0, 8));
+        Check.refused("12: what -1", x, Check.ARGUMENT, () -> x.window(0, -1));
         minimums();
     }
 
     private static void minimums() {
-        DockLayout x = Check.layout(5, "H(1:ab,1:V(1:c,1:de-))");
+        Run x = Check.layout(5, "H(1:ab,1:V(1:c,1:de-))");
         x.setMinimum(0, 7, 3);
         x.setMinimum(1, 6, 9);
         x.setMinimum(2, 11, 2);
@@ -123,7 +119,7 @@ public final class WindowsTest {
     }
 
     private static void floating() {
-        DockLayout x = threeWindows();
+        Run x = threeWindows();
         Check.due("13: order", Check.floating(x), "123");
         Check.due("13: negative", x.floating(-1), -1);
         Check.due("13: behind the last", x.floating(3), -1);

@@ -1,6 +1,10 @@
 /** What the tests share: answers are compared, and what is wrong is printed and counted. */
 final class Check {
-    /** A call of the class under test. */
+    static final Class<?> INDEX = IndexOutOfBoundsException.class;
+    static final Class<?> ARGUMENT = IllegalArgumentException.class;
+    static final Class<?> STATE = IllegalStateException.class;
+
+    /** A call of the layout under test. */
     interface Call {
         long make();
     }
@@ -28,8 +32,8 @@ final class Check {
         }
     }
 
-    /** The call throws exactly this exception, and changes nothing that can be seen. */
-    static void refused(String call, DockLayout layout, Class<?> want, Call made) {
+    /** The call throws exactly this exception, and changes nothing. */
+    static void refused(String call, Run layout, Class<?> want, Call made) {
         String before = picture(layout);
         Class<?> got = null;
         try {
@@ -41,7 +45,7 @@ final class Check {
             wrong++;
             System.out.println(call + " threw " + got + ", due is " + want);
         }
-        due(call + ", what is seen behind it", picture(layout), before);
+        due(call + ", what is there behind it", picture(layout), before);
     }
 
     static void finish() {
@@ -51,35 +55,97 @@ final class Check {
         }
     }
 
-    /** The checksum and the text together: all that can change. */
-    static String picture(DockLayout layout) {
-        return layout.checksum() + " " + textOf(layout);
+    // ---- looks at a layout that change nothing there
+
+    /** All that there is: the layout as it is seen, its text, its slots and its records. */
+    static String picture(Run layout) {
+        StringBuilder all = new StringBuilder(text(layout)).append('\n').append(scene(layout)).append('\n');
+        for (int k = 0; k < 3; k++) {
+            int slot = k;
+            Run restored = layout.twin();
+            all.append(answers(() -> restored.restore(slot))).append(scene(restored)).append('\n');
+        }
+        Run earlier = layout.twin();
+        while (answers(() -> earlier.undo())) {
+            all.append(scene(earlier)).append('\n');
+        }
+        return all.toString();
     }
 
-    static String textOf(DockLayout layout) {
+    private static boolean answers(Call call) {
+        try {
+            call.make();
+            return true;
+        } catch (RuntimeException e) {
+            return false;
+        }
+    }
+
+    /** The checksum, the orders, and the trees with the weights of their splits. */
+    private static String scene(Run layout) {
+        String floats = floating(layout);
+        StringBuilder all = new StringBuilder().append(layout.twin().checksum());
+        all.append(' ').append(focus(layout)).append(' ').append(floats).append(' ').append(tree(layout, 0));
+        for (int k = 0; k < floats.length(); k++) {
+            all.append(' ').append(tree(layout, floats.charAt(k) - '0'));
+        }
+        return all.toString();
+    }
+
+    static String text(Run layout) {
+        return textIn(layout.twin());
+    }
+
+    private static String textIn(Run twin) {
         StringBuilder text = new StringBuilder();
-        for (int k = 0; layout.character(k) != DockLayout.NONE; k++) {
-            text.append((char) layout.character(k));
+        for (int code = twin.character(0); code != DockLayout.NONE; code = twin.character(text.length())) {
+            text.append((char) code);
         }
         return text.toString();
     }
 
-    static void typeText(DockLayout layout, String text) {
+    /** The tree of a window as a text; the text buffer stays as it is. */
+    static String tree(Run layout, int window) {
+        Run twin = layout.twin();
+        return answers(() -> twin.write(window)) ? textIn(twin) : "a longer text";
+    }
+
+    static String rectangle(Run layout, int pane) {
+        Run twin = layout.twin();
+        return twin.rectangle(pane, 0) + " " + twin.rectangle(pane, 1) + " "
+            + twin.rectangle(pane, 2) + " " + twin.rectangle(pane, 3);
+    }
+
+    static String focus(Run layout) {
+        Run twin = layout.twin();
+        StringBuilder order = new StringBuilder();
+        for (int pane = twin.focus(0); pane != DockLayout.NONE; pane = twin.focus(order.length())) {
+            order.append((char) ('a' + pane));
+        }
+        return order.toString();
+    }
+
+    static String floating(Run layout) {
+        Run twin = layout.twin();
+        StringBuilder order = new StringBuilder();
+        for (int window = twin.floating(0); window != DockLayout.NONE; window = twin.floating(order.length())) {
+            order.append(window);
+        }
+        return order.toString();
+    }
+
+    // ---- calls that many tests begin with
+
+    static void typeText(Run layout, String text) {
         layout.clearText();
         for (int k = 0; k < text.length(); k++) {
             layout.type(text.charAt(k));
         }
     }
 
-    /** The tree of a window as a text; it comes into the text buffer. */
-    static String tree(DockLayout layout, int window) {
-        layout.write(window);
-        return textOf(layout);
-    }
-
     /** A layout with some panes, with the minimum sizes 5 and 4, and this tree in the main window. */
-    static DockLayout layout(int panes, String tree) {
-        DockLayout layout = new DockLayout();
+    static Run layout(int panes, String tree) {
+        Run layout = new Run();
         for (int k = 0; k < panes; k++) {
             layout.create(5, 4);
         }
@@ -88,26 +154,5 @@ final class Check {
             layout.read();
         }
         return layout;
-    }
-
-    static String rectangle(DockLayout layout, int pane) {
-        return layout.rectangle(pane, 0) + " " + layout.rectangle(pane, 1) + " "
-            + layout.rectangle(pane, 2) + " " + layout.rectangle(pane, 3);
-    }
-
-    static String focus(DockLayout layout) {
-        StringBuilder order = new StringBuilder();
-        for (int k = 0; layout.focus(k) != DockLayout.NONE; k++) {
-            order.append((char) ('a' + layout.focus(k)));
-        }
-        return order.toString();
-    }
-
-    static String floating(DockLayout layout) {
-        StringBuilder order = new StringBuilder();
-        for (int k = 0; layout.floating(k) != DockLayout.NONE; k++) {
-            order.append(layout.floating(k));
-        }
-        return order.toString();
     }
 }
