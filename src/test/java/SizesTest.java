@@ -17,6 +17,8 @@ public final class SizesTest {
         tooSmall();
         nested();
         elevenSplits();
+        elevenSplitsByDocking();
+        restsBesideEachOther();
         drag();
         dragLimits();
         dragUp();
@@ -274,6 +276,39 @@ public final class SizesTest {
         x.dock(11, 0, 2);
         Check.due("14: with all nodes in use", x.pane(11, 8), 1);
         Check.due("7: pane 11 then", Check.rectangle(x, 11), "0 0 127 95");
+    }
+
+    /** The same tree, when its splits come one after the other: the first group is older than all of them. */
+    private static void elevenSplitsByDocking() {
+        Run x = new Run();
+        for (int pane = 0; pane < 12; pane++) {
+            x.create(1, 1);
+        }
+        x.start(0);
+        for (int pane = 1; pane < 12; pane++) {
+            x.dock(pane, pane - 1, pane % 2 == 1 ? 1 : 3);
+        }
+        x.resize(0, 255, 190);
+        String[] due = {
+            "0 0 127 190", "128 0 127 95", "128 96 63 94", "192 96 63 47", "192 144 31 46", "224 144 31 23", "224 168 15 22",
+            "240 168 15 11", "240 180 7 10", "248 180 7 5", "248 186 3 4", "252 186 3 4"
+        };
+        for (int pane = 0; pane < 12; pane++) {
+            Check.due("7: by docking, pane " + pane, Check.rectangle(x, pane), due[pane]);
+        }
+        Check.due("12: the minimum width", x.window(0, 5), 7 * 1 + 6);
+        Check.due("12: the minimum height", x.window(0, 6), 6 * 2 + 5);
+    }
+
+    /** What is left of r in one split has nothing to do with what is left in another one. */
+    private static void restsBesideEachOther() {
+        Run x = Check.layout(4, "H(100:a,100:b,100:V(1:c,1:d))");
+        x.resize(0, 102, 60);
+        Check.due("7: 100 by three", columns(x, 3), "0+34 35+33 69+33");
+        Check.due("7: 59 by two", Check.rectangle(x, 2) + ", " + Check.rectangle(x, 3), "69 0 33 30, 69 31 33 29");
+        Run y = Check.layout(5, "H(1:V(1:a,1:b),100:c,100:d,100:e)");
+        y.resize(0, 305, 60);
+        Check.due("7: in the first child", Check.rectangle(y, 0) + ", " + Check.rectangle(y, 1), "0 0 5 30, 0 31 5 29");
     }
 
     private static void drag() {
