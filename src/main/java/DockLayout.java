@@ -40,7 +40,7 @@ public final class DockLayout {
     /** Always belongs to the state as it is: every change of the layout computes it anew. */
     private final Plan plan = new Plan();
     private final Text text = new Text();
-    private final TreeReader reader = new TreeReader(text);
+    private final TreeReader reader = new TreeReader();
     private final TreeWriter writer = new TreeWriter();
 
     public DockLayout() {
@@ -403,11 +403,11 @@ public final class DockLayout {
     }
 
     public int fault() {
-        return reader.findFault(now);
+        return reader.findFault(now, text);
     }
 
     public int read() throws IllegalArgumentException {
-        if (reader.findFault(now) != NONE) {
+        if (reader.findFault(now, text) != NONE) {
             throw new IllegalArgumentException("the text has a fault");
         }
         keepRecord();
@@ -1493,7 +1493,7 @@ public final class DockLayout {
 
     /** Reads the tree for the main window from a text, up to the first fault. */
     private static final class TreeReader {
-        private final Text text;
+        private final Text text = new Text();
         /**
          * The layout with the tree that is read. A text with a fault may open more nodes than there
          * are; those are not made, since nobody looks at its tree.
@@ -1502,11 +1502,8 @@ public final class DockLayout {
         private int position;
         private int allowed;
 
-        TreeReader(Text text) {
-            this.text = text;
-        }
-
-        int findFault(State state) {
+        int findFault(State state, Text typed) {
+            text.copyFrom(typed);
             trees.copyFrom(state.trees);
             trees.emptyWindow(MAIN);
             allowed = 0;
